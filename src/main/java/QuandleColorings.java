@@ -394,7 +394,10 @@ public final class QuandleColorings {
             refreshQuotients();
         }
 
-        /** Trivial, dihedral, Alexander and cyclic operations are all of this form; within the loops newSize is at least 1. */
+        /**
+         * Trivial, dihedral, Alexander and cyclic operations are all of this form. The loops are entered only
+         * for a size of 1 or more, so the divisor is never 0.
+         */
         void becomeLinear(int newSize, int xFactor, int yFactor, int shift) {
             size = newSize;
             for (int x = 0; x < newSize; x++) {
@@ -872,28 +875,29 @@ public final class QuandleColorings {
         private final int[] images = new int[MAX_SIZE];
 
         int countFor(Operation operation) {
-            return countExtensions(operation, 0, 0);
+            return countExtensions(operation, images, 0, 0);
         }
 
-        /** Counts the automorphisms that agree with the images of the elements below x; used is their mask. */
-        private int countExtensions(Operation operation, int x, int used) {
-            if (x >= operation.size || x >= MAX_SIZE) {
-                return isHomomorphism(operation) ? 1 : 0;
+        /** Counts the automorphisms with the images chosen for the elements below x; used is the mask of these. */
+        private static int countExtensions(Operation operation, int[] images, int x, int used) {
+            if (x >= operation.size || x >= images.length) {
+                return isHomomorphism(operation, images) ? 1 : 0;
             }
             int count = 0;
             for (int image = 0; image < operation.size; image++) {
                 if ((used & (1 << image)) == 0) {
                     images[x] = image;
-                    count += countExtensions(operation, x + 1, used | (1 << image));
+                    count += countExtensions(operation, images, x + 1, used | (1 << image));
                 }
             }
             return count;
         }
 
-        private boolean isHomomorphism(Operation operation) {
+        private static boolean isHomomorphism(Operation operation, int[] images) {
             for (int x = 0; x < operation.size; x++) {
                 for (int y = 0; y < operation.size; y++) {
-                    if (imageOf(operation.product(x, y)) != operation.product(imageOf(x), imageOf(y))) {
+                    int imageOfProduct = imageOf(images, operation.product(x, y));
+                    if (imageOfProduct != operation.product(imageOf(images, x), imageOf(images, y))) {
                         return false;
                     }
                 }
@@ -901,8 +905,8 @@ public final class QuandleColorings {
             return true;
         }
 
-        private int imageOf(int x) {
-            return x >= 0 && x < MAX_SIZE ? images[x] : 0;
+        private static int imageOf(int[] images, int x) {
+            return x >= 0 && x < images.length ? images[x] : 0;
         }
     }
 }

@@ -10,6 +10,7 @@ public final class HistoryTest {
         emptyHistory();
         fiveEditsCanBeUndone();
         everyEditIsUndoneWhole();
+        crossingsComeBack();
         editsThatChangeNothing();
         editsAfterUndo();
         readingIsNoEdit();
@@ -60,6 +61,23 @@ public final class HistoryTest {
                 Check.holds("edit " + first + " is undone", everything(q).equals(before));
             }
         }
+    }
+
+    private static void crossingsComeBack() {
+        QuandleColorings q = new QuandleColorings();
+        q.setStrands(4);
+        q.appendCrossing(3);
+        q.appendCrossing(-2);
+        q.removeCrossing();
+        q.removeCrossing();
+        q.appendCrossing(1);
+        q.undo();
+        q.undo();
+        Check.due("two undone: crossingCount()", q.crossingCount(), 1);
+        q.undo();
+        Check.due("the last crossing is back: removeCrossing()", q.removeCrossing(), 2);
+        Check.due("the first crossing is back: removeCrossing()", q.removeCrossing(), 3);
+        Check.due("no other: removeCrossing()", q.removeCrossing(), Check.NONE);
     }
 
     private static void editsThatChangeNothing() {

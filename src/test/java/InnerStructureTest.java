@@ -19,6 +19,10 @@ public final class InnerStructureTest {
         Check.due("dihedral 4: orbit(3)", q.orbit(3), 10);
         q.loadCyclicRack(6);
         Check.due("cyclic 6: orbit(3)", q.orbit(3), 63);
+        q.loadTrivial(3);
+        q.setEntry(0, 0, 2);
+        Check.due("only 0 * 0 changed: orbit(0)", q.orbit(0), 5);
+        Check.due("only 0 * 0 changed: orbit(2)", q.orbit(2), 4);
         // A chain 0 -> 1 -> ... -> 5 -> 5: not invertible, so nothing leads back.
         q.loadTrivial(6);
         for (int x = 0; x < 5; x++) {
@@ -91,6 +95,12 @@ public final class InnerStructureTest {
         Check.due("dihedral 4: automorphismCount()", q.automorphismCount(), 8);
         q.loadDihedral(5);
         Check.due("dihedral 5: automorphismCount()", q.automorphismCount(), 20);
+        q.loadTrivial(3);
+        q.setEntry(0, 1, 1);
+        Check.due("0 and 1 are marked: automorphismCount()", q.automorphismCount(), 1);
+        q.loadTrivial(3);
+        q.setEntry(1, 0, 2);
+        Check.due("1 and 0 are marked: automorphismCount()", q.automorphismCount(), 1);
         // x * y = 0: exactly the bijections that fix 0.
         q.loadTrivial(4);
         Check.setTable(q, new int[16]);

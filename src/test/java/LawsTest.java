@@ -35,6 +35,10 @@ public final class LawsTest {
         q.loadTrivial(2);
         Check.setTable(q, 0, 1, 1, 0);
         Check.due("invertible, not distributive", q.distributivityViolation(), 1);
+        // Only the column of 0 moves, by 1 -> 2 -> 0: (1 * 2) * 0 = 2 and (1 * 0) * (2 * 0) = 2 * 0 = 0.
+        q.loadTrivial(3);
+        Check.setTable(q, 0, 0, 0, 2, 1, 1, 0, 2, 2);
+        Check.due("violated for z = 0 alone", q.distributivityViolation(), 36 + 6 * 2);
         // x * y = 0 is distributive without being invertible.
         q.loadTrivial(3);
         Check.setTable(q, 0, 0, 0, 0, 0, 0, 0, 0, 0);

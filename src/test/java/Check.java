@@ -10,15 +10,25 @@ final class Check {
 
     private static int checks = 0;
     private static int wrong = 0;
+    /** Stands before each printed line: which sentence of the document is being tested. */
+    private static String context = "";
 
     private Check() {
+    }
+
+    static void within(String newContext) {
+        context = newContext;
+    }
+
+    static int count() {
+        return checks;
     }
 
     static void due(String call, int got, int want) {
         checks++;
         if (got != want) {
             wrong++;
-            System.out.println(call + " answered " + got + ", due is " + want);
+            System.out.println(context + call + " answered " + got + ", due is " + want);
         }
     }
 
@@ -26,7 +36,7 @@ final class Check {
         checks++;
         if (!truth) {
             wrong++;
-            System.out.println("does not hold: " + what);
+            System.out.println(context + "does not hold: " + what);
         }
     }
 

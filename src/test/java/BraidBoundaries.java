@@ -45,6 +45,8 @@ final class BraidBoundaries {
         Bench.after("setStrands(2); setStrands(2); undo() = 1; crossingCount() = 0; undo() = 0; crossingCount() = 3; undo() = NOT_FOUND");
         Bench.after(Expect.FULL_BRAID + "setStrands(2); undo() = 4; crossingCount() = 12; removeCrossing() = 2; removeCrossing() = 2; "
             + "removeCrossing() = 1");
+        // The first crossing, too, though another one has stood in its place.
+        Bench.after("setStrands(4); appendCrossing(-3); undo() = 1; undo() = 0; removeCrossing() = 1; removeCrossing() = 1; removeCrossing() = 1");
     }
 
     private static void strandNumbers() {

@@ -11,9 +11,30 @@ final class Check {
     private static int checks = 0;
     private static int wrong = 0;
     /** Stands before each printed line: which sentence of the document is being tested. */
-    private static String context = "";
+    private static volatile String context = "";
+
+    private static final long LONGEST_MILLISECONDS = 300_000;
+
+    static {
+        watch();
+    }
 
     private Check() {
+    }
+
+    /** A call that does not end is a wrong answer, too. */
+    private static void watch() {
+        Thread watch = new Thread(() -> {
+            try {
+                Thread.sleep(LONGEST_MILLISECONDS);
+            } catch (InterruptedException e) {
+                return;
+            }
+            System.out.println(context + "the test does not end");
+            Runtime.getRuntime().halt(1);
+        });
+        watch.setDaemon(true);
+        watch.start();
     }
 
     static void within(String newContext) {

@@ -338,6 +338,11 @@ final class DescriptionBoundaries {
         Bench.after(set + "setWeight(0, 2, 1); stateSum(1) = 1; stateSum(0) = 1");
         Bench.after(set + "setWeight(0, 0, 1); stateSum(11) = 1; stateSum(0) = 1");
         Bench.after(set + "setWeight(2, 0, 1); setWeight(0, 1, 1); setWeight(1, 2, 1); setWeight(2, 1, 1); setWeight(2, 2, 1); stateSum(0) = 2");
+        // A crossing and its negative have no weight together: weight(a, b) is taken away again, not weight(b, a) or that of the colors between.
+        String uneven = "loadAlexander(5, 2); setModulus(12); setWeight(0, 1, 1); setWeight(2, 0, 5); setWeight(4, 3, 11); setWeight(3, 3, 7); ";
+        Bench.after(uneven + Bench.braidCalls(2, 1, -1) + "stateSum(0) = 25");
+        Bench.after(uneven + Bench.braidCalls(2, -1, 1) + "stateSum(0) = 25");
+        Bench.after(uneven + Bench.braidCalls(4, -3, 3, 2, -2) + "stateSum(0) = 625");
         // No crossing has no weight; all 12 count, the first and the last too.
         Bench.after("loadTrivial(1); setStrands(4); setWeight(0, 0, 1); stateSum(0) = 1");
         String tenThatCancel = "appendCrossing(1); appendCrossing(-1); ".repeat(5);

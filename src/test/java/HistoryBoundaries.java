@@ -37,6 +37,12 @@ final class HistoryBoundaries {
         // A full braid's crossings come back from an empty one.
         Bench.after(Expect.FULL_BRAID + "setStrands(4); undo() = 4; crossingCount() = 12; appendCrossing(3) = INVALID_ARGUMENT; "
             + "appendCrossing(2) = LIMIT_REACHED");
+        // Each of the 12 crossings comes back, the first and the last one too, where others have stood in its place.
+        String others = Bench.braidCalls(4, 3, 3, 3, 3, 3, 3, 3, 3, 3, 3, 3, 3);
+        Bench.after("removeCrossing(); removeCrossing(); setStrands(4); appendCrossing(-3); undo() = 3; undo() = 2; removeCrossing() = 1; "
+            + "removeCrossing() = NOT_FOUND");
+        Bench.after(others + "setStrands(4); appendCrossing(1); undo() = 4; undo() = 3; " + "removeCrossing() = 3; ".repeat(12) + "removeCrossing() = NOT_FOUND");
+        Bench.after(others + "removeCrossing(); appendCrossing(1); undo() = 4; undo() = 3; " + "removeCrossing() = 3; ".repeat(12) + "removeCrossing() = NOT_FOUND");
         // What is undone may have made the operation not invertible, or mended it.
         Bench.after("setEntry(0, 0, 1); setEntry(2, 0, 0); coloringCount() = 5; undo() = 1; coloringCount() = INVALID_STATE; undo() = 0; coloringCount() = 9");
     }

@@ -109,6 +109,9 @@ final class WeightsBoundaries {
 
     private static void setWeightReturnsPrevious() {
         Bench.after("setWeight(0, 0, 2) = 0; setWeight(0, 0, 2) = 2; setWeight(0, 0, 0) = 2; setWeight(0, 0, 1) = 0; undo(); setWeight(0, 0, 2) = 0");
+        // That of the pair itself, not of the two elements the other way round.
+        Bench.after("setWeight(0, 2, 2) = 0; setWeight(2, 0, 1) = 0; setWeight(0, 2, 0) = 2; setWeight(2, 0, 0) = 1");
+        Bench.after("loadTrivial(6); setModulus(12); setWeight(0, 5, 11) = 0; setWeight(5, 0, 7) = 0; setWeight(0, 5, 1) = 11; setWeight(5, 0, 1) = 7");
         Bench.after("setModulus(12); loadTrivial(6); setWeight(5, 5, 11) = 0; setWeight(5, 5, 0) = 11; setWeight(5, 5, 12) = INVALID_ARGUMENT; "
             + "setWeight(5, 5, 1) = 0");
     }

@@ -5,7 +5,7 @@ import java.util.ArrayList;
 import java.util.Comparator;
 import java.util.List;
 
-/** Compares the sentences that have been tested with those of ../shared/DOC.md; run from the project's root. */
+/** Compares what has been tested with the words of ../shared/DOC.md; run from the project's root. */
 final class Document {
     private static final Path PLACE = Path.of("../shared/DOC.md");
     private static final int PROMISES = 31;
@@ -13,15 +13,23 @@ final class Document {
     private Document() {
     }
 
+    /** Says so where it is not. */
+    static boolean isHere() {
+        boolean here = Files.exists(PLACE);
+        if (!here) {
+            System.out.println("there is no " + PLACE + " here: the tests are not compared with it");
+        }
+        return here;
+    }
+
+    /** Each sentence of the document has a test, and each tested sentence is the document's. */
     static void compare() throws IOException {
-        if (!Files.exists(PLACE)) {
-            System.out.println("there is no " + PLACE + " here: the sentences are not compared with it");
+        if (!isHere()) {
             return;
         }
-        List<String> lines = Files.readAllLines(PLACE);
         for (int part = Sentence.PREFACE; part <= PROMISES; part++) {
             String heading = headingOf(part);
-            compare(heading, textUnder(heading, lines), Sentence.quotesOf(part));
+            compare(heading, textUnder(heading), Sentence.quotesOf(part));
         }
     }
 
@@ -45,23 +53,41 @@ final class Document {
         Check.holds(heading + " has a test for each sentence; without one: " + left.trim(), allTested);
     }
 
-    private static String textUnder(String heading, List<String> lines) {
-        StringBuilder text = new StringBuilder();
+    static List<String> linesUnder(String heading) throws IOException {
+        List<String> under = new ArrayList<>();
         boolean inside = false;
-        for (String line : lines) {
+        for (String line : Files.readAllLines(PLACE)) {
             if (line.startsWith("## ")) {
                 inside = line.startsWith(heading);
-            } else if (inside && !isNoSentence(line)) {
+            } else if (inside) {
+                under.add(line);
+            }
+        }
+        return under;
+    }
+
+    private static String textUnder(String heading) throws IOException {
+        StringBuilder text = new StringBuilder();
+        for (String line : linesUnder(heading)) {
+            if (!isNoSentence(line)) {
                 text.append(line).append('\n');
             }
         }
         return text.toString();
     }
 
-    /** Headings and signatures, and the examples, which have a test of their own: ExamplesTest. */
+    static boolean isExample(String line) {
+        return line.matches("\\d+\\. .*");
+    }
+
+    /** Headings, and what has a test of its own: the signatures in FaceTest, the examples in ExamplesTest. */
     private static boolean isNoSentence(String line) {
-        return line.startsWith("A workbench for finite racks and quandles:") || line.startsWith("---- ") || line.startsWith("`int ") || line.startsWith("`QuandleColorings()`")
-            || line.startsWith("Examples:") || line.matches("[1-4]\\. .*")
+        return line.startsWith("A workbench for finite racks and quandles:") || line.startsWith("---- ") || isSignature(line)
+            || line.startsWith("Examples:") || isExample(line)
             || line.startsWith("The constants:") || line.startsWith("The constructor and the methods follow");
+    }
+
+    static boolean isSignature(String line) {
+        return line.matches("`(int )?\\w+\\(.*\\)`");
     }
 }
